@@ -656,23 +656,20 @@ public final class HolKernel {
 
     // Interns EQTYPES(a), all or none of it, and answers the type of EQ(a) or NONE.
     private int internEqTypes(int a) {
-        int test = findFun(a, BOOL);
-        int needed = 2;
-        if (test != NONE) {
-            needed = findFun(a, test) == NONE ? 1 : 0;
-        }
-        if (types + needed > MAX_TYPES) {
+        int known = findFun(a, BOOL);
+        // Without fun(a,BOOL) the second type can't be there either, so both need room.
+        if (known == NONE && types + 2 > MAX_TYPES) {
             return NONE;
         }
-        test = internFun(a, BOOL);
+        int test = internFun(a, BOOL);
         return internFun(a, test);
     }
 
     // Interns fun(d,c) and EQTYPES of it, all or none of them, and answers fun(d,c) or NONE.
     private int internAbsTypes(int d, int c) {
-        int found = findFun(d, c);
-        // EQTYPES of a type that is not in the table can't be there either.
-        if (found == NONE && types + 3 > MAX_TYPES) {
+        int known = findFun(d, c);
+        // Without fun(d,c) its EQTYPES can't be there either, so all three need room.
+        if (known == NONE && types + 3 > MAX_TYPES) {
             return NONE;
         }
         int type = internFun(d, c);

@@ -100,8 +100,9 @@ public final class EquationRulesTest {
         int f = k.mkVar(2, 3);
         int fp = k.mkComb(f, p);
         int redex = k.mkComb(k.mkAbs(p, p), p);
+        int ofEq = k.mkComb(k.mkVar(3, k.mkFun(4, 0)), k.mkEq(0));
         int same = k.rule(REFL, p, 0, 0);
-        for (int t : new int[] {p, gpp, fp, redex}) {
+        for (int t : new int[] {p, gpp, fp, redex, ofEq}) {
             int thm = k.rule(ASSUME, t, 0, 0);
             Due.refused("R_TRANS a of term " + t, k, () -> k.rule(TRANS, thm, same, 0));
             Due.refused("R_TRANS b of term " + t, k, () -> k.rule(TRANS, same, thm, 0));

@@ -8,6 +8,7 @@ public final class RuleTest {
         wrongHandles();
         fullTable();
         oldTermsAndThmsStay();
+        refusedRulesLeaveNothing();
         Due.end();
     }
 
@@ -115,5 +116,24 @@ public final class RuleTest {
             Due.is("theorems before call " + i + " stay", Due.thms(k).startsWith(thms), true);
             Due.same("terms after call " + i, Due.terms(k), terms);
         }
+    }
+
+    /** What comes after a refused rule must not see what that had begun to build. */
+    private static void refusedRulesLeaveNothing() {
+        HolKernel k = new HolKernel(32, 16);
+        int f = k.mkVar(0, 3);
+        int g = k.mkVar(1, 3);
+        int p = k.mkVar(0, 0);
+        int f7 = k.rule(HolKernel.R_ASSUME, Due.chain(k, f, p, 7), 0, 0);
+        int g7 = k.rule(HolKernel.R_ASSUME, Due.chain(k, g, p, 7), 0, 0);
+        Due.refused("R_DEDUCT, too large", k, () -> k.rule(HolKernel.R_DEDUCT_ANTISYM, f7, g7, 0));
+        int assumed = k.rule(HolKernel.R_ASSUME, p, 0, 0);
+        Due.is("hypotheses after a refusal", k.hypCount(assumed), 1);
+        Due.part("hypothesis after a refusal", k, assumed, 1, Due.var(0, 0));
+        Due.refused("R_TRANS of p", k, () -> k.rule(HolKernel.R_TRANS, assumed, assumed, 0));
+        Due.refused("R_DEDUCT again", k, () -> k.rule(HolKernel.R_DEDUCT_ANTISYM, f7, g7, 0));
+        int equation = k.rule(HolKernel.R_ASSUME, Due.equation(k, p, p), 0, 0);
+        Due.is("R_ABS of f after a refusal", k.rule(HolKernel.R_ABS, equation, f, 0), 4);
+        Due.is("hypotheses of it", k.hypCount(4), 1);
     }
 }
