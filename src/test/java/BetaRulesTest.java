@@ -20,7 +20,7 @@ public final class BetaRulesTest {
     }
 
     private static void beta() {
-        HolKernel k = new HolKernel(16, 8);
+        Traced k = new Traced(16, 8);
         int x = k.mkVar(0, 1);
         int y = k.mkVar(1, 1);
         int twice = k.mkAbs(x, Due.equation(k, x, x));
@@ -38,7 +38,7 @@ public final class BetaRulesTest {
     }
 
     private static void betaUnderAbs() {
-        HolKernel k = new HolKernel(16, 8);
+        Traced k = new Traced(16, 8);
         int p = k.mkVar(0, 0);
         int q = k.mkVar(1, 0);
         int g = k.mkVar(2, 4);
@@ -58,7 +58,7 @@ public final class BetaRulesTest {
     }
 
     private static void betaWrongShapes() {
-        HolKernel k = new HolKernel(16, 8);
+        Traced k = new Traced(16, 8);
         int p = k.mkVar(0, 0);
         int f = k.mkVar(0, 3);
         int eq = k.mkEq(0);
@@ -75,7 +75,7 @@ public final class BetaRulesTest {
     }
 
     private static void betaEdges() {
-        HolKernel k = new HolKernel(32, 8);
+        Traced k = new Traced(32, 8);
         int f = k.mkVar(0, 3);
         int p = k.mkVar(0, 0);
         int id = k.mkAbs(p, p);
@@ -93,7 +93,7 @@ public final class BetaRulesTest {
         Due.is("size of (\\p. t15) with p bound", k.termSize(to15), 18);
         Due.refused("R_BETA of size 36", k, () -> k.rule(BETA, to15, 0, 0));
 
-        HolKernel grows = new HolKernel(32, 8);
+        Traced grows = new Traced(32, 8);
         int g = grows.mkVar(1, 3);
         int q = grows.mkVar(1, 0);
         int both = grows.mkAbs(q, Due.equation(grows, q, Due.equation(grows, q, q)));
@@ -104,7 +104,7 @@ public final class BetaRulesTest {
     }
 
     private static void normWithoutRedex() {
-        HolKernel k = new HolKernel(32, 8);
+        Traced k = new Traced(32, 8);
         int f = k.mkVar(0, 3);
         int p = k.mkVar(0, 0);
         int id = k.mkAbs(p, p);
@@ -120,7 +120,7 @@ public final class BetaRulesTest {
     }
 
     private static void normStepByStep() {
-        HolKernel k = new HolKernel(32, 8);
+        Traced k = new Traced(32, 8);
         int x = k.mkVar(0, 1);
         int y = k.mkVar(1, 1);
         int aa = k.mkFun(1, 1);
@@ -147,7 +147,7 @@ public final class BetaRulesTest {
                 Due.var(1, 1));
     }
 
-    private static int chainOfIdentities(HolKernel k) {
+    private static int chainOfIdentities(Traced k) {
         int x = k.mkVar(0, 1);
         int y = k.mkVar(1, 1);
         int id = k.mkAbs(x, x);
@@ -155,7 +155,7 @@ public final class BetaRulesTest {
     }
 
     private static void normLifts() {
-        HolKernel k = new HolKernel(32, 8);
+        Traced k = new Traced(32, 8);
         int p = k.mkVar(0, 0);
         int q = k.mkVar(1, 0);
         int r = k.mkVar(2, 0);
@@ -182,7 +182,7 @@ public final class BetaRulesTest {
             Due.bound(0, 0), Due.bound(2, 0), Due.bound(1, 0)});
     }
 
-    private static void endsWith(String what, HolKernel k, int th, int[] nodes) {
+    private static void endsWith(String what, Traced k, int th, int[] nodes) {
         int from = k.thmSize(th, 0) - nodes.length;
         for (int i = 0; i < nodes.length; i++) {
             Due.is(what + ", node " + i, k.thmNode(th, 0, from + i), nodes[i]);
@@ -190,7 +190,7 @@ public final class BetaRulesTest {
     }
 
     private static void normOrder() {
-        HolKernel k = new HolKernel(32, 8);
+        Traced k = new Traced(32, 8);
         int f = k.mkVar(0, 3);
         int p = k.mkVar(1, 0);
         int x = k.mkVar(2, 0);
@@ -207,7 +207,7 @@ public final class BetaRulesTest {
     }
 
     private static void normIntermediateSize() {
-        HolKernel k = new HolKernel(32, 8);
+        Traced k = new Traced(32, 8);
         int x = k.mkVar(0, 1);
         int aa = k.mkFun(1, 1);
         int f = k.mkVar(1, aa);
@@ -229,7 +229,7 @@ public final class BetaRulesTest {
     }
 
     private static void normEdges() {
-        HolKernel k = new HolKernel(32, 8);
+        Traced k = new Traced(32, 8);
         int f = k.mkVar(0, 3);
         int p = k.mkVar(0, 0);
         int id = k.mkAbs(p, p);
@@ -242,7 +242,7 @@ public final class BetaRulesTest {
     }
 
     private static void normIntermediateEdges() {
-        HolKernel k = new HolKernel(32, 8);
+        Traced k = new Traced(32, 8);
         int f = k.mkVar(0, 3);
         int p = k.mkVar(1, 0);
         int x = k.mkVar(2, 0);
@@ -261,7 +261,7 @@ public final class BetaRulesTest {
 
     private static void typesOfBoth() {
         for (int kind : new int[] {BETA, NORM}) {
-            HolKernel k = new HolKernel(16, 8);
+            Traced k = new Traced(16, 8);
             int x = k.mkVar(0, 1);
             int redex = k.mkComb(k.mkAbs(x, x), x);
             Due.is("types before rule " + kind, k.typeCount(), 6);
@@ -269,7 +269,7 @@ public final class BetaRulesTest {
             Due.same("types after rule " + kind, Due.types(k),
                     "types 8 -1>-1 -1>-1 -1>-1 0>0 0>3 1>1 1>0 1>6");
 
-            HolKernel full = new HolKernel(16, 8);
+            Traced full = new Traced(16, 8);
             int y = full.mkVar(0, 1);
             int other = full.mkComb(full.mkAbs(y, y), y);
             Due.fillTypes(full, 47);

@@ -20,7 +20,7 @@ public final class ConstructionTest {
 
     private static void capacities(int maxTerms, int maxThms, int terms, int thms) {
         String what = "new HolKernel(" + maxTerms + ", " + maxThms + "): ";
-        HolKernel k = new HolKernel(maxTerms, maxThms);
+        Traced k = new Traced(maxTerms, maxThms);
         for (int t = 0; t < terms; t++) {
             Due.is(what + "term " + t, k.mkVar(0, HolKernel.BOOL), t);
         }
@@ -32,7 +32,7 @@ public final class ConstructionTest {
     }
 
     private static void freshState() {
-        HolKernel k = new HolKernel(32, 16);
+        Traced k = new Traced(32, 16);
         Due.same("fresh types", Due.types(k), "types 5 -1>-1 -1>-1 -1>-1 0>0 0>3");
         for (int h : new int[] {Integer.MIN_VALUE, -1, 0, 1, 15, 16, 31, 32, Integer.MAX_VALUE}) {
             Due.is("fresh termType " + h, k.termType(h), -1);
@@ -52,8 +52,8 @@ public final class ConstructionTest {
     }
 
     private static void objectsAreApart() {
-        HolKernel k = new HolKernel(8, 4);
-        HolKernel other = new HolKernel(8, 4);
+        Traced k = new Traced(8, 4);
+        Traced other = new Traced(8, 4);
         int p = k.mkVar(0, HolKernel.BOOL);
         k.mkFun(1, 2);
         k.rule(HolKernel.R_ASSUME, p, 0, 0);

@@ -25,7 +25,7 @@ public final class DeductionRulesTest {
     }
 
     private static void assume() {
-        HolKernel k = new HolKernel(32, 8);
+        Traced k = new Traced(32, 8);
         int p = k.mkVar(7, 0);
         int f = k.mkVar(0, 3);
         int a = k.mkVar(0, 1);
@@ -44,7 +44,7 @@ public final class DeductionRulesTest {
     }
 
     private static void eqMp() {
-        HolKernel k = new HolKernel(32, 8);
+        Traced k = new Traced(32, 8);
         int p = k.mkVar(0, 0);
         int q = k.mkVar(1, 0);
         int pq = Due.equation(k, p, q);
@@ -62,7 +62,7 @@ public final class DeductionRulesTest {
     }
 
     private static void eqMpWrongShapes() {
-        HolKernel k = new HolKernel(32, 16);
+        Traced k = new Traced(32, 16);
         int p = k.mkVar(0, 0);
         int f = k.mkVar(0, 3);
         int fp = k.mkComb(f, p);
@@ -81,7 +81,7 @@ public final class DeductionRulesTest {
     }
 
     private static void eqMpHypotheses() {
-        HolKernel k = new HolKernel(32, 16);
+        Traced k = new Traced(32, 16);
         int p = k.mkVar(0, 0);
         int q = k.mkVar(1, 0);
         int hypP = k.rule(ASSUME, p, 0, 0);
@@ -95,7 +95,7 @@ public final class DeductionRulesTest {
     }
 
     private static void deduct() {
-        HolKernel k = new HolKernel(32, 16);
+        Traced k = new Traced(32, 16);
         int p = k.mkVar(0, 0);
         int q = k.mkVar(1, 0);
         String types = Due.types(k);
@@ -113,7 +113,7 @@ public final class DeductionRulesTest {
     }
 
     private static void deductRemoves() {
-        HolKernel k = new HolKernel(32, 16);
+        Traced k = new Traced(32, 16);
         int p = k.mkVar(0, 0);
         int q = k.mkVar(1, 0);
         int pq = Due.equation(k, p, q);
@@ -143,7 +143,7 @@ public final class DeductionRulesTest {
     }
 
     private static void deductEdges() {
-        HolKernel k = new HolKernel(32, 16);
+        Traced k = new Traced(32, 16);
         int f = k.mkVar(0, 3);
         int p = k.mkVar(0, 0);
         int t13 = Due.chain(k, f, p, 6);
@@ -161,7 +161,7 @@ public final class DeductionRulesTest {
         int count = 6;
         for (int i = 0; i < count; i++) {
             for (int j = 0; j < count; j++) {
-                HolKernel k = new HolKernel(32, 16);
+                Traced k = new Traced(32, 16);
                 int[] ascending = sixAscending(k);
                 int a = k.rule(ASSUME, ascending[i], 0, 0);
                 int b = k.rule(ASSUME, ascending[j], 0, 0);
@@ -179,7 +179,7 @@ public final class DeductionRulesTest {
     }
 
     /** p0, p1, f p1, g p0, p0 = p0 and (\p0. p0) p0: VAR before COMB VAR, COMB COMB, COMB ABS. */
-    private static int[] sixAscending(HolKernel k) {
+    private static int[] sixAscending(Traced k) {
         int p0 = k.mkVar(0, 0);
         int p1 = k.mkVar(1, 0);
         int f = k.mkVar(0, 3);
@@ -190,8 +190,8 @@ public final class DeductionRulesTest {
     }
 
     /** A kernel with p0 to p3 as terms 0 to 3, and p |- p of each as theorems 0 to 3. */
-    private static HolKernel fourAssumed() {
-        HolKernel k = new HolKernel(32, 16);
+    private static Traced fourAssumed() {
+        Traced k = new Traced(32, 16);
         for (int i = 0; i < 4; i++) {
             k.mkVar(i, 0);
         }
@@ -202,10 +202,10 @@ public final class DeductionRulesTest {
     }
 
     private static void mostHypotheses() {
-        HolKernel k = fourAssumed();
+        Traced k = fourAssumed();
         int[][] orders = {{0, 1, 2}, {0, 2, 1}, {1, 0, 2}, {1, 2, 0}, {2, 0, 1}, {2, 1, 0}};
         for (int[] order : orders) {
-            HolKernel fresh = fourAssumed();
+            Traced fresh = fourAssumed();
             int two = fresh.rule(DEDUCT, order[0], order[1], 0);
             int three = fresh.rule(DEDUCT, two, order[2], 0);
             Due.is("three hypotheses", fresh.hypCount(three), 3);
@@ -224,7 +224,7 @@ public final class DeductionRulesTest {
         // p0, p1, p2 |- (p0 = p1) = p2, and p0 = p1 on the left with hypotheses of its own.
         Due.is("R_EQ_MP with three", k.hypCount(k.rule(EQ_MP, three, two, 0)), 3);
 
-        HolKernel m = fourAssumed();
+        Traced m = fourAssumed();
         int p0p1 = m.rule(DEDUCT, 0, 1, 0);
         int p2p3 = m.rule(DEDUCT, 2, 3, 0);
         int p1p2 = m.rule(DEDUCT, 1, 2, 0);
@@ -237,7 +237,7 @@ public final class DeductionRulesTest {
     }
 
     private static void inst() {
-        HolKernel k = new HolKernel(32, 16);
+        Traced k = new Traced(32, 16);
         int x = k.mkVar(0, 1);
         int y = k.mkVar(1, 1);
         int sameId = k.mkVar(0, 0);
@@ -261,7 +261,7 @@ public final class DeductionRulesTest {
     }
 
     private static void instUnderAbs() {
-        HolKernel k = new HolKernel(32, 16);
+        Traced k = new Traced(32, 16);
         int p = k.mkVar(0, 0);
         int q = k.mkVar(1, 0);
         int function = k.mkAbs(p, Due.equation(k, p, q));
@@ -283,7 +283,7 @@ public final class DeductionRulesTest {
     }
 
     private static void instUnites() {
-        HolKernel k = fourAssumed();
+        Traced k = fourAssumed();
         int two = k.rule(DEDUCT, 0, 1, 0);
         int three = k.rule(DEDUCT, two, 2, 0);
         int made = k.rule(INST, three, 2, 0);
@@ -296,7 +296,7 @@ public final class DeductionRulesTest {
     }
 
     private static void instSortsAgain() {
-        HolKernel k = fourAssumed();
+        Traced k = fourAssumed();
         int two = k.rule(DEDUCT, 0, 1, 0);
         int three = k.rule(DEDUCT, two, 2, 0);
         int made = k.rule(INST, three, 0, 3);
@@ -309,7 +309,7 @@ public final class DeductionRulesTest {
     }
 
     private static void instWrongShapes() {
-        HolKernel k = new HolKernel(32, 16);
+        Traced k = new Traced(32, 16);
         int p = k.mkVar(0, 0);
         int x = k.mkVar(0, 1);
         int eq = k.mkEq(0);
@@ -324,7 +324,7 @@ public final class DeductionRulesTest {
     }
 
     private static void instEdges() {
-        HolKernel k = new HolKernel(32, 16);
+        Traced k = new Traced(32, 16);
         int f = k.mkVar(0, 3);
         int p = k.mkVar(0, 0);
         int q = k.mkVar(1, 0);

@@ -24,7 +24,7 @@ public final class EquationRulesTest {
     }
 
     private static void refl() {
-        HolKernel k = new HolKernel(8, 4);
+        Traced k = new Traced(8, 4);
         int x = k.mkVar(3, 1);
         Due.is("R_REFL of x", k.rule(REFL, x, 0, 0), 0);
         Due.is("hypotheses of x = x", k.hypCount(0), 0);
@@ -37,7 +37,7 @@ public final class EquationRulesTest {
     }
 
     private static void reflEdges() {
-        HolKernel k = new HolKernel(32, 4);
+        Traced k = new Traced(32, 4);
         int f = k.mkVar(0, 3);
         int p = k.mkVar(0, 0);
         int t13 = Due.chain(k, f, p, 6);
@@ -49,7 +49,7 @@ public final class EquationRulesTest {
         int x15 = k.mkAbs(k.mkVar(0, 1), t14);
         Due.refused("R_REFL of size 15, new types", k, () -> k.rule(REFL, x15, 0, 0));
 
-        HolKernel full = new HolKernel(8, 4);
+        Traced full = new Traced(8, 4);
         Due.fillTypes(full, 47);
         int a = full.mkVar(0, 1);
         int b = full.mkVar(0, 0);
@@ -58,7 +58,7 @@ public final class EquationRulesTest {
         Due.refused("R_REFL, one of two types is there", full, () -> full.rule(REFL, a, 0, 0));
         Due.is("R_REFL, types are there", full.rule(REFL, b, 0, 0), 0);
 
-        HolKernel last = new HolKernel(8, 4);
+        Traced last = new Traced(8, 4);
         Due.fillTypes(last, 46);
         int c = last.mkVar(0, 1);
         Due.is("R_REFL, room for just its types", last.rule(REFL, c, 0, 0), 0);
@@ -66,7 +66,7 @@ public final class EquationRulesTest {
     }
 
     private static void trans() {
-        HolKernel k = new HolKernel(32, 16);
+        Traced k = new Traced(32, 16);
         int x = k.mkVar(0, 1);
         int y = k.mkVar(1, 1);
         int z = k.mkVar(2, 1);
@@ -93,7 +93,7 @@ public final class EquationRulesTest {
     }
 
     private static void transWrongShapes() {
-        HolKernel k = new HolKernel(32, 16);
+        Traced k = new Traced(32, 16);
         int p = k.mkVar(0, 0);
         int g = k.mkVar(1, 4);
         int gpp = k.mkComb(k.mkComb(g, p), p);
@@ -116,7 +116,7 @@ public final class EquationRulesTest {
     }
 
     private static void transEdges() {
-        HolKernel k = new HolKernel(32, 16);
+        Traced k = new Traced(32, 16);
         int f = k.mkVar(0, 3);
         int p = k.mkVar(1, 0);
         int q = k.mkVar(0, 0);
@@ -136,7 +136,7 @@ public final class EquationRulesTest {
     }
 
     private static void mkComb() {
-        HolKernel k = new HolKernel(32, 16);
+        Traced k = new Traced(32, 16);
         int ab = k.mkFun(1, 2);
         int f = k.mkVar(0, ab);
         int g = k.mkVar(1, ab);
@@ -162,7 +162,7 @@ public final class EquationRulesTest {
     }
 
     private static void mkCombWrongShapes() {
-        HolKernel k = new HolKernel(32, 16);
+        Traced k = new Traced(32, 16);
         int f = k.mkVar(0, k.mkFun(1, 2));
         int p = k.mkVar(0, 0);
         int b = k.mkVar(0, 2);
@@ -178,7 +178,7 @@ public final class EquationRulesTest {
     }
 
     private static void mkCombEdges() {
-        HolKernel k = new HolKernel(32, 16);
+        Traced k = new Traced(32, 16);
         int ff = k.mkVar(0, 3);
         int p = k.mkVar(0, 0);
         int t11 = Due.chain(k, ff, p, 5);
@@ -194,7 +194,7 @@ public final class EquationRulesTest {
         Due.is("size 30 of R_MK_COMB", k.thmSize(k.rule(MK_COMB, functions, uneven, 0), 0), 30);
         Due.is("size 32 of R_MK_COMB", k.thmSize(k.rule(MK_COMB, functions, more, 0), 0), 32);
 
-        HolKernel full = new HolKernel(8, 8);
+        Traced full = new Traced(8, 8);
         int ab = full.mkFun(1, 2);
         int f = full.mkVar(0, ab);
         int x = full.mkVar(0, 1);
@@ -208,7 +208,7 @@ public final class EquationRulesTest {
     }
 
     private static void abs() {
-        HolKernel k = new HolKernel(32, 16);
+        Traced k = new Traced(32, 16);
         int x = k.mkVar(4, 1);
         int y = k.mkVar(5, 1);
         int redex = k.mkComb(k.mkAbs(x, x), y);
@@ -235,7 +235,7 @@ public final class EquationRulesTest {
     }
 
     private static void absOfHypotheses() {
-        HolKernel k = new HolKernel(32, 16);
+        Traced k = new Traced(32, 16);
         int x = k.mkVar(4, 1);
         int y = k.mkVar(5, 1);
         int sameId = k.mkVar(4, 2);
@@ -268,7 +268,7 @@ public final class EquationRulesTest {
     }
 
     private static void absWrongShapes() {
-        HolKernel k = new HolKernel(32, 16);
+        Traced k = new Traced(32, 16);
         int p = k.mkVar(0, 0);
         int eq = k.mkEq(0);
         int comb = k.mkComb(eq, p);
@@ -283,7 +283,7 @@ public final class EquationRulesTest {
     }
 
     private static void absEdges() {
-        HolKernel k = new HolKernel(32, 16);
+        Traced k = new Traced(32, 16);
         int f = k.mkVar(0, 3);
         int p = k.mkVar(1, 0);
         int t13 = Due.chain(k, f, p, 6);
@@ -301,7 +301,7 @@ public final class EquationRulesTest {
     private static void absTypes() {
         for (int known = 0; known <= 3; known++) {
             for (int room = 0; room <= 3; room++) {
-                HolKernel k = new HolKernel(8, 8);
+                Traced k = new Traced(8, 8);
                 int p = k.mkVar(0, 0);
                 int x = k.mkVar(0, 1);
                 int same = k.rule(REFL, p, 0, 0);

@@ -13,7 +13,7 @@ public final class RuleTest {
     }
 
     private static void unknownKinds() {
-        HolKernel k = new HolKernel(8, 4);
+        Traced k = new Traced(8, 4);
         int p = k.mkVar(0, 0);
         Due.is("rule R_ASSUME", k.rule(HolKernel.R_ASSUME, p, 0, 0), 0);
         for (int kind : new int[] {0, -1, 11, 12, 266, Integer.MIN_VALUE, Integer.MAX_VALUE}) {
@@ -23,7 +23,7 @@ public final class RuleTest {
 
     private static void ignoredArguments() {
         for (int x : WILD) {
-            HolKernel k = new HolKernel(32, 16);
+            Traced k = new Traced(32, 16);
             int p = k.mkVar(0, 0);
             int f = k.mkVar(0, 3);
             int redex = k.mkComb(k.mkAbs(p, p), p);
@@ -42,7 +42,7 @@ public final class RuleTest {
     }
 
     private static void wrongHandles() {
-        HolKernel k = new HolKernel(32, 16);
+        Traced k = new Traced(32, 16);
         int p = k.mkVar(0, 0);
         k.mkVar(1, 0);
         int f = k.mkVar(0, 3);
@@ -78,7 +78,7 @@ public final class RuleTest {
     }
 
     private static void fullTable() {
-        HolKernel k = new HolKernel(32, 4);
+        Traced k = new Traced(32, 4);
         int p = k.mkVar(0, 0);
         int f = k.mkVar(0, 3);
         int a = k.mkVar(0, 1);
@@ -100,7 +100,7 @@ public final class RuleTest {
     }
 
     private static void oldTermsAndThmsStay() {
-        HolKernel k = new HolKernel(32, 16);
+        Traced k = new Traced(32, 16);
         int p = k.mkVar(0, 0);
         int q = k.mkVar(1, 0);
         int redex = k.mkComb(k.mkAbs(p, p), q);
@@ -120,7 +120,7 @@ public final class RuleTest {
 
     /** What comes after a refused rule must not see what that had begun to build. */
     private static void refusedRulesLeaveNothing() {
-        HolKernel k = new HolKernel(32, 16);
+        Traced k = new Traced(32, 16);
         int f = k.mkVar(0, 3);
         int g = k.mkVar(1, 3);
         int p = k.mkVar(0, 0);

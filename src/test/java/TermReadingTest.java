@@ -3,7 +3,7 @@ public final class TermReadingTest {
     private static final int[] WRONG = {-1, Integer.MIN_VALUE, Integer.MAX_VALUE, 32, 33, 96};
 
     public static void main(String[] args) {
-        HolKernel k = new HolKernel(32, 16);
+        Traced k = new Traced(32, 16);
         int a = k.mkVar(15, 1);
         int f = k.mkVar(1, k.mkFun(1, 2));
         int fa = k.mkComb(f, a);
@@ -23,7 +23,7 @@ public final class TermReadingTest {
         Due.end();
     }
 
-    private static void types(HolKernel k, int a, int f, int fa, int eq, int equation, int abs) {
+    private static void types(Traced k, int a, int f, int fa, int eq, int equation, int abs) {
         Due.is("type of a", k.termType(a), 1);
         Due.is("type of f", k.termType(f), 5);
         Due.is("type of f a", k.termType(fa), 2);
@@ -34,7 +34,7 @@ public final class TermReadingTest {
         Due.is("typeArg(8,1)", k.typeArg(8, 1), 0);
     }
 
-    private static void wrongArguments(HolKernel k, int last) {
+    private static void wrongArguments(Traced k, int last) {
         for (int bad : WRONG) {
             Due.is("termType(" + bad + ")", k.termType(bad), -1);
             Due.is("termSize(" + bad + ")", k.termSize(bad), -1);
@@ -46,7 +46,7 @@ public final class TermReadingTest {
         Due.is("termNode, one too far", k.termNode(last + 1, 0), -1);
     }
 
-    private static void nothingChanges(HolKernel k) {
+    private static void nothingChanges(Traced k) {
         String before = Due.types(k) + Due.terms(k) + Due.thms(k);
         Due.same("all after reading", Due.types(k) + Due.terms(k) + Due.thms(k), before);
         Due.is("the next handle after reading", k.mkVar(0, 0), 7);

@@ -20,7 +20,7 @@ public final class TermsTest {
     }
 
     private static void variables() {
-        HolKernel k = new HolKernel(8, 4);
+        Traced k = new Traced(8, 4);
         String before = Due.types(k);
         Due.is("mkVar(0,BOOL)", k.mkVar(0, 0), 0);
         Due.is("mkVar(15,4)", k.mkVar(15, 4), 1);
@@ -35,7 +35,7 @@ public final class TermsTest {
     }
 
     private static void wrongVariables() {
-        HolKernel k = new HolKernel(8, 4);
+        Traced k = new Traced(8, 4);
         for (int bad : NEVER_HANDLES) {
             Due.refused("mkVar(" + bad + ",0)", k, () -> k.mkVar(bad, 0));
             Due.refused("mkVar(0," + bad + ")", k, () -> k.mkVar(0, bad));
@@ -47,7 +47,7 @@ public final class TermsTest {
     }
 
     private static void equalities() {
-        HolKernel k = new HolKernel(8, 4);
+        Traced k = new Traced(8, 4);
         Due.is("mkEq(BOOL)", k.mkEq(0), 0);
         Due.is("type of EQ(BOOL)", k.termType(0), 4);
         Due.is("typeCount() after mkEq(BOOL)", k.typeCount(), 5);
@@ -71,7 +71,7 @@ public final class TermsTest {
     }
 
     private static void equalitiesAtTheEndOfTheTable() {
-        HolKernel k = new HolKernel(8, 4);
+        Traced k = new Traced(8, 4);
         k.mkFun(1, 0);
         Due.fillTypes(k, 46);
         Due.is("mkEq(B), room for just its two types", k.mkEq(2), 0);
@@ -80,7 +80,7 @@ public final class TermsTest {
         Due.refused("mkEq(A), room for none of its types", k, () -> k.mkEq(1));
         Due.is("mkEq(B) again", k.mkEq(2), 1);
 
-        HolKernel one = new HolKernel(8, 4);
+        Traced one = new Traced(8, 4);
         one.mkFun(1, 0);
         Due.fillTypes(one, 47);
         Due.refused("mkEq(B), room for one of two types", one, () -> one.mkEq(2));
@@ -90,7 +90,7 @@ public final class TermsTest {
     }
 
     private static void applications() {
-        HolKernel k = new HolKernel(8, 4);
+        Traced k = new Traced(8, 4);
         int ab = k.mkFun(1, 2);
         int f = k.mkVar(0, ab);
         int x = k.mkVar(1, 1);
@@ -112,7 +112,7 @@ public final class TermsTest {
     }
 
     private static void wrongApplications() {
-        HolKernel k = new HolKernel(8, 4);
+        Traced k = new Traced(8, 4);
         int f = k.mkVar(0, k.mkFun(1, 2));
         int x = k.mkVar(1, 1);
         int y = k.mkVar(1, 2);
@@ -131,7 +131,7 @@ public final class TermsTest {
     }
 
     private static void largestApplication() {
-        HolKernel k = new HolKernel(32, 4);
+        Traced k = new Traced(32, 4);
         int f = k.mkVar(0, 3);
         int p = k.mkVar(0, 0);
         int t15 = Due.chain(k, f, p, 7);
@@ -151,7 +151,7 @@ public final class TermsTest {
     }
 
     private static void abstractions() {
-        HolKernel k = new HolKernel(16, 4);
+        Traced k = new Traced(16, 4);
         int x = k.mkVar(2, 1);
         int other = k.mkVar(2, 2);
         int otherId = k.mkVar(3, 1);
@@ -173,7 +173,7 @@ public final class TermsTest {
     }
 
     private static void abstractionUnderAbstraction() {
-        HolKernel k = new HolKernel(16, 4);
+        Traced k = new Traced(16, 4);
         int x = k.mkVar(0, 0);
         int y = k.mkVar(1, 0);
         int eq = k.mkEq(0);
@@ -198,7 +198,7 @@ public final class TermsTest {
     }
 
     private static void wrongAbstractions() {
-        HolKernel k = new HolKernel(16, 4);
+        Traced k = new Traced(16, 4);
         int x = k.mkVar(0, 1);
         int eq = k.mkEq(0);
         int p = k.mkVar(0, 0);
@@ -217,7 +217,7 @@ public final class TermsTest {
     }
 
     private static void largestAbstraction() {
-        HolKernel k = new HolKernel(32, 4);
+        Traced k = new Traced(32, 4);
         int f = k.mkVar(0, 3);
         int p = k.mkVar(0, 0);
         int t31 = Due.chain(k, f, p, 15);
@@ -230,7 +230,7 @@ public final class TermsTest {
     }
 
     private static void abstractionsAtTheEndOfTheTable() {
-        HolKernel k = new HolKernel(16, 4);
+        Traced k = new Traced(16, 4);
         Due.fillTypes(k, 47);
         int p = k.mkVar(0, 0);
         int x = k.mkVar(0, 1);
@@ -243,11 +243,11 @@ public final class TermsTest {
     }
 
     private static void fullArena() {
-        HolKernel k = new HolKernel(8, 4);
+        Traced k = new Traced(8, 4);
         int f = k.mkVar(0, 3);
         int p = k.mkVar(0, 0);
         int x = k.mkVar(0, 1);
-        Due.fillTerms(k, 8, 1);
+        Due.fillTerms(k, 1);
         Due.is("the last term", k.mkComb(f, p), 7);
         Due.refused("mkVar in a full arena", k, () -> k.mkVar(0, 0));
         Due.refused("mkEq in a full arena", k, () -> k.mkEq(0));

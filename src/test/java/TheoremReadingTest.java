@@ -4,7 +4,7 @@ public final class TheoremReadingTest {
         -1, Integer.MIN_VALUE, Integer.MAX_VALUE, 4, 16, 17, 32, 96};
 
     public static void main(String[] args) {
-        HolKernel k = new HolKernel(32, 16);
+        Traced k = new Traced(32, 16);
         int p = k.mkVar(0, 0);
         int q = k.mkVar(1, 0);
         int fp = k.mkComb(k.mkVar(2, 3), p);
@@ -20,7 +20,7 @@ public final class TheoremReadingTest {
         Due.end();
     }
 
-    private static void sizes(HolKernel k, int none, int one, int two) {
+    private static void sizes(Traced k, int none, int one, int two) {
         Due.is("hypCount of p = p", k.hypCount(none), 0);
         Due.is("hypCount of f p |- f p", k.hypCount(one), 1);
         Due.is("hypCount of q, f p |- f p = q", k.hypCount(two), 2);
@@ -35,7 +35,7 @@ public final class TheoremReadingTest {
         Due.is("thmSize of a part that is not there, 3", k.thmSize(two, 3), -1);
     }
 
-    private static void nodes(HolKernel k, int none, int one, int two) {
+    private static void nodes(Traced k, int none, int one, int two) {
         Due.part("p = p", k, none, 0, 196608, 196608, 131072, 65536, 65536);
         Due.part("f p |- f p", k, one, 1, 196608, 66051, 65536);
         Due.part("f p = q", k, two, 0, 196608, 196608, 131072, 196608, 66051, 65536, 65792);
@@ -45,7 +45,7 @@ public final class TheoremReadingTest {
         Due.is("thmNode of a part that is not there, 3", k.thmNode(two, 3, 0), -1);
     }
 
-    private static void parts(HolKernel k, int two, int fp, int q, int p) {
+    private static void parts(Traced k, int two, int fp, int q, int p) {
         int conclusion = Due.equation(k, fp, q);
         int otherWay = Due.equation(k, q, fp);
         int copy = k.mkVar(1, 0);
@@ -63,7 +63,7 @@ public final class TheoremReadingTest {
         Due.is("part 3", k.thmPartIs(two, 3, fp), false);
     }
 
-    private static void wrongArguments(HolKernel k, int none, int two, int q) {
+    private static void wrongArguments(Traced k, int none, int two, int q) {
         for (int bad : WRONG) {
             Due.is("hypCount(" + bad + ")", k.hypCount(bad), -1);
             Due.is("thmSize(" + bad + ",0)", k.thmSize(bad, 0), -1);
@@ -83,7 +83,7 @@ public final class TheoremReadingTest {
         Due.is("thmSize(1,-4)", k.thmSize(1, -4), -1);
     }
 
-    private static void nothingChanges(HolKernel k) {
+    private static void nothingChanges(Traced k) {
         int types = k.typeCount();
         Due.is("the next theorem after reading", k.rule(HolKernel.R_ASSUME, 0, 0, 0), 4);
         Due.is("the types after reading", k.typeCount(), types);

@@ -11,7 +11,7 @@ public final class TypesTest {
     }
 
     private static void ordinaryTypes() {
-        HolKernel k = new HolKernel(8, 4);
+        Traced k = new Traced(8, 4);
         Due.is("mkFun(BOOL,BOOL)", k.mkFun(0, 0), 3);
         Due.is("mkFun(BOOL,3)", k.mkFun(0, 3), 4);
         Due.is("typeCount() after known types", k.typeCount(), 5);
@@ -28,7 +28,7 @@ public final class TypesTest {
     }
 
     private static void wrongHandles() {
-        HolKernel k = new HolKernel(8, 4);
+        Traced k = new Traced(8, 4);
         for (int bad : NEVER_TYPES) {
             Due.refused("mkFun(" + bad + ",0)", k, () -> k.mkFun(bad, 0));
             Due.refused("mkFun(0," + bad + ")", k, () -> k.mkFun(0, bad));
@@ -50,7 +50,7 @@ public final class TypesTest {
     }
 
     private static void fullTable() {
-        HolKernel k = new HolKernel(8, 4);
+        Traced k = new Traced(8, 4);
         Due.fillTypes(k, 47);
         Due.is("typeCount() before the last type", k.typeCount(), 47);
         Due.is("the last type", k.mkFun(46, 46), 47);
@@ -64,7 +64,7 @@ public final class TypesTest {
     }
 
     private static void termsAndThmsStay() {
-        HolKernel k = new HolKernel(8, 4);
+        Traced k = new Traced(8, 4);
         int p = k.mkVar(0, HolKernel.BOOL);
         k.rule(HolKernel.R_ASSUME, p, 0, 0);
         String before = Due.terms(k) + Due.thms(k);
