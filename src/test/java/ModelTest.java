@@ -23,6 +23,9 @@ public final class ModelTest {
             play(run);
             readAll(run);
             truth.check(run, model);
+            if (run % 20 == 0) {
+                Audit.check("run " + run, kernel);
+            }
         }
         for (int kind = 1; kind <= 10; kind++) {
             Due.is("rule " + kind + " was made often enough", made[kind] >= 300, true);
