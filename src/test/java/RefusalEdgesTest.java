@@ -10,8 +10,20 @@ public final class RefusalEdgesTest {
         Integer.MIN_VALUE, Integer.MIN_VALUE + 1, -65536, -2, -1, 0, 1, 2, 15, 16, 31, 32, 47, 48,
         65536, Integer.MAX_VALUE - 1, Integer.MAX_VALUE};
 
+    // Terms of late(): three variables, and terms of 15 to 18 nodes.
+    private static final int P = 0;
+    private static final int F = 1;
+    private static final int Q = 4;
+    private static final int T15 = 9;
+    private static final int T16 = 10;
+    private static final int T17 = 11;
+    private static final int T18 = 12;
+    private static final int ID_OF_A = 25;
+
     public static void main(String[] args) {
         refusedCallsChangeNothing();
+        refusedRulesLeaveNoTrace();
+        refusedForTypesLeavesNoTrace();
         falseChangesNothing();
         everyRefusalAnswersTheSame();
         typeHandles();
@@ -70,6 +82,91 @@ public final class RefusalEdgesTest {
         Due.refused("R_EQ_MP of f and p", k, () -> k.rule(HolKernel.R_EQ_MP, 1, 0, 0));
         Due.refused("R_DEDUCT of -1", k, () -> k.rule(HolKernel.R_DEDUCT_ANTISYM, 0, -1, 0));
         Due.refused("R_INST of p by x", k, () -> k.rule(HolKernel.R_INST, 0, 0, 2));
+    }
+
+    /**
+     * Rules that are refused late, when much of the theorem may have been worked out: each rule
+     * after them, and each rule on its theorem, does the same as without them.
+     */
+    private static void refusedRulesLeaveNoTrace() {
+        int[][] refusedCalls = {{1, T15, 0, 0}, {9, 0, 1, 0}, {9, 6, 9, 0}, {2, 12, 10, 0},
+            {3, 3, 11, 0}, {5, T18, 0, 0}, {6, T18, 0, 0}, {10, 10, Q, T17}, {4, 6, Q, 0},
+            {8, 2, 5, 0}, {7, F, 0, 0}};
+        noTrace(late(), refusedCalls);
+    }
+
+    /** The same where the theorem is all right, but its types find no room. */
+    private static void refusedForTypesLeavesNoTrace() {
+        Traced k = late();
+        Due.fillTypes(k, 48);
+        noTrace(k, new int[][] {{4, 13, P, 0}, {1, ID_OF_A, 0, 0}, {6, ID_OF_A, 0, 0}});
+    }
+
+    private static void noTrace(Traced start, int[][] refusedCalls) {
+        int[][] goodCalls = {{1, P, 0, 0}, {2, 2, 2, 0}, {3, 3, 2, 0}, {4, 2, Q, 0}, {5, T16, 0, 0},
+            {6, T16, 0, 0}, {7, Q, 0, 0}, {8, 2, 4, 0}, {9, 4, 5, 0}, {10, 6, Q, P}};
+        int made = 14;
+        int[][] callsOnIt = {{2, made, made, 0}, {3, 3, made, 0}, {4, made, F, 0}, {8, made, 4, 0},
+            {9, made, 5, 0}, {10, made, P, Q}};
+        Due.is("theorems before", Due.thmCount(start.kernel()), made);
+        for (int[] bad : refusedCalls) {
+            for (int[] good : goodCalls) {
+                for (int[] after : callsOnIt) {
+                    HolKernel with = start.again();
+                    HolKernel without = start.again();
+                    String what = "rule " + good[0] + " after refused rule " + bad[0];
+                    Due.is("refused rule " + bad[0], rule(with, bad), -1);
+                    Due.is(what, rule(with, good), made);
+                    Due.is("rule " + good[0], rule(without, good), made);
+                    Due.is(what + ", rule " + after[0] + " on it", rule(with, after),
+                            rule(without, after));
+                    Due.same(what + ", all", Due.all(with), Due.all(without));
+                }
+            }
+        }
+    }
+
+    private static int rule(HolKernel k, int[] call) {
+        return k.rule(call[0], call[1], call[2], call[3]);
+    }
+
+    /**
+     * Theorems 0 to 13: t15 |- t15, t16 |- t16, |- p = p, |- f = f, p |- p, q |- q,
+     * p, q |- p = q, r |- r, s |- s, r, s |- r = s, and assumed q = t13, t13 = t13, t17 = q and
+     * x = x with x of type A.
+     */
+    private static Traced late() {
+        Traced k = new Traced(32, 16);
+        Sized sized = new Sized(k);
+        int q = k.mkVar(1, 0);
+        sized.of(13);
+        int large = sized.of(15);
+        int redex = sized.of(16);
+        sized.of(17);
+        sized.of(18);
+        int r = k.mkVar(2, 0);
+        int s = k.mkVar(3, 0);
+        int x = k.mkVar(0, 1);
+        k.rule(HolKernel.R_ASSUME, large, 0, 0);
+        k.rule(HolKernel.R_ASSUME, redex, 0, 0);
+        k.rule(HolKernel.R_REFL, sized.p, 0, 0);
+        k.rule(HolKernel.R_REFL, sized.f, 0, 0);
+        k.rule(HolKernel.R_ASSUME, sized.p, 0, 0);
+        k.rule(HolKernel.R_ASSUME, q, 0, 0);
+        k.rule(HolKernel.R_DEDUCT_ANTISYM, 4, 5, 0);
+        k.rule(HolKernel.R_ASSUME, r, 0, 0);
+        k.rule(HolKernel.R_ASSUME, s, 0, 0);
+        k.rule(HolKernel.R_DEDUCT_ANTISYM, 7, 8, 0);
+        k.rule(HolKernel.R_ASSUME, k.mkComb(k.mkComb(sized.eq, q), sized.of(13)), 0, 0);
+        sized.assumedEquation(13, 13);
+        k.rule(HolKernel.R_ASSUME, k.mkComb(k.mkComb(sized.eq, sized.of(17)), q), 0, 0);
+        k.rule(HolKernel.R_ASSUME, Due.equation(k, x, x), 0, 0);
+        Due.is("size of term T15", k.termSize(T15), 15);
+        Due.is("size of term T16", k.termSize(T16), 16);
+        Due.is("size of term T17", k.termSize(T17), 17);
+        Due.is("size of term T18", k.termSize(T18), 18);
+        Due.is("\\x. x", k.mkAbs(x, x), ID_OF_A);
+        return k;
     }
 
     /** "... (false for the boolean answer) and changes nothing at all". */

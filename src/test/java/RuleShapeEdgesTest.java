@@ -27,6 +27,7 @@ public final class RuleShapeEdgesTest {
         absVariableInAHypothesis();
         absVariableOnlyAlike();
         absOfNoVariable();
+        absUnderEveryDepth();
         betaShape();
         assumeOfEveryType();
         eqMpMustBeEqual();
@@ -215,6 +216,26 @@ public final class RuleShapeEdgesTest {
             Due.refused("R_INST of term " + b, k, () -> k.rule(INST, same, b, b));
         }
         Due.is("R_ABS of a function variable", k.rule(ABS, same, F, 0), 1);
+    }
+
+    /** R_ABS: "S and T are the abstractions of VAR(i,d) in s and in t", under 0 to 5 ABS nodes. */
+    private static void absUnderEveryDepth() {
+        for (int left = 0; left <= 5; left++) {
+            Traced k = fourVariables();
+            int s = Q;
+            for (int i = 0; i < left; i++) {
+                s = k.mkComb(k.mkAbs(P, s), P);
+            }
+            // |- (\p. (... q) p) p = q, with as many ABS nodes above the first q.
+            int equation = k.rule(HolKernel.R_BETA_NORM, s, 0, 0);
+            int made = k.rule(ABS, equation, Q, 0);
+            int size = k.thmSize(made, 0);
+            Due.is("node of q on the left, depth " + left, k.thmNode(made, 0, 4 + 2 * left),
+                    Due.bound(left, 0));
+            Due.is("first node on the right", k.thmNode(made, 0, size - 2), Due.abs(0));
+            Due.is("node of q on the right", k.thmNode(made, 0, size - 1), Due.bound(0, 0));
+            Audit.check("R_ABS at depth " + left, k.kernel());
+        }
     }
 
     /** R_BETA: "a = term t of the form COMB(ABS(d,s),u)". */

@@ -9,6 +9,7 @@ public final class TermEdgesTest {
         codesOfLargestParts();
         orderAtTheFirstDifference();
         orderOfKinds();
+        orderOfNumbersAndTypes();
         sizeOfAnEquation();
         abstractionUnderEveryDepth();
         abstractionLeavesOtherVariables();
@@ -177,6 +178,37 @@ public final class TermEdgesTest {
         int id = k.mkAbs(p, p);
         int constant = k.mkAbs(p, q);
         ascend("(\\p. q15) p, (\\p. p) p", k, k.mkComb(constant, p), k.mkComb(id, p));
+    }
+
+    /** Within a kind the number i or j weighs more than the type. */
+    private static void orderOfNumbersAndTypes() {
+        Traced k = new Traced(32, 16);
+        int x = k.mkVar(0, 1);
+        int p = k.mkVar(0, 0);
+        int ofA = k.mkFun(1, 0);
+        int h0 = k.mkVar(0, ofA);
+        int f0 = k.mkVar(0, 3);
+        int f1 = k.mkVar(1, 3);
+        int h0x = k.mkComb(h0, x);
+        ascend("f0 p, h0 x: the smaller type", k, k.mkComb(f0, p), h0x);
+        ascend("h0 x, f1 p: the smaller number", k, h0x, k.mkComb(f1, p));
+        ascend("p = p, x = x", k, Due.equation(k, p, p), Due.equation(k, x, x));
+        int overP = k.mkAbs(p, p);
+        int overX = k.mkAbs(x, p);
+        ascend("(\\p. p) p, (\\x. p) x", k, k.mkComb(overP, p), k.mkComb(overX, x));
+        int near = k.mkComb(k.mkComb(k.mkAbs(x, overP), x), p);
+        int far = k.mkComb(k.mkComb(k.mkAbs(p, k.mkAbs(x, p)), p), x);
+        ascend("(\\p x. p) p x, (\\x p. p) x p", k, far, near);
+        Traced other = new Traced(32, 16);
+        orderOfBound(other, other.mkVar(0, 0), other.mkVar(1, 0));
+    }
+
+    /** BOUND nodes by their index: the nearer binder first. */
+    private static void orderOfBound(Traced k, int p, int q) {
+        int first = k.mkAbs(p, k.mkAbs(q, q));
+        int second = k.mkAbs(p, k.mkAbs(q, p));
+        ascend("(\\p q. q) p q, (\\p q. p) p q", k, k.mkComb(k.mkComb(first, p), q),
+                k.mkComb(k.mkComb(second, p), q));
     }
 
     /** "Its size is 3 + size(s) + size(t)." */
