@@ -87,7 +87,7 @@ public final class TermEdgesTest {
         Audit.check("terms and theorems of all sizes", k.kernel());
     }
 
-    /** "Two terms are equal exactly when ...; this is equality up to renaming of bound variables." */
+    /** "Two terms are equal exactly when ...; this is equality up to renaming ...". */
     private static void equalUpToRenaming() {
         Traced k = new Traced(32, 8);
         int x = k.mkVar(0, 0);

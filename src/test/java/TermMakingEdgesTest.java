@@ -11,11 +11,13 @@ public final class TermMakingEdgesTest {
         mkEqTypes();
         mkEqThatDoesNotFitAddsNoType();
         mkEqLeavesTheorems();
+        mkCombOfInvalidTerms();
         mkCombOfNoFunction();
         mkCombOfAnotherArgument();
         mkCombSizes();
         mkCombCopies();
         mkCombNeedsNoRoomForTypes();
+        mkAbsOfInvalidTerms();
         mkAbsOfNoVariable();
         mkAbsSizes();
         mkAbsVariableNeedNotOccur();
@@ -147,7 +149,31 @@ public final class TermMakingEdgesTest {
         }
     }
 
-    /** Promise 7: "Refused ... if the type of f is not fun(d,c)": a base type has no argument. */
+    /** Promise 7: "Refused if f or x is invalid". */
+    private static void mkCombOfInvalidTerms() {
+        for (int count : new int[] {2, 7, 31}) {
+            Traced k = variablesOnly(count);
+            for (int bad : new int[] {-1, count, count + 1, 32, Integer.MAX_VALUE,
+                Integer.MIN_VALUE}) {
+                Due.refused("mkComb(" + bad + ",p) of " + count, k, () -> k.mkComb(bad, 1));
+                Due.refused("mkComb(f," + bad + ") of " + count, k, () -> k.mkComb(0, bad));
+                Due.refused("mkComb(" + bad + "," + bad + ")", k, () -> k.mkComb(bad, bad));
+            }
+            Due.is("mkComb with the newest term", k.mkComb(0, count - 1), count);
+        }
+    }
+
+    /** f and then variables of type BOOL, so many that 'count' terms are there. */
+    private static Traced variablesOnly(int count) {
+        Traced k = new Traced(32, 4);
+        k.mkVar(0, 3);
+        for (int t = 1; t < count; t++) {
+            k.mkVar(t % 16, 0);
+        }
+        return k;
+    }
+
+    /** "Refused ... if the type of f is not fun(d,c)": a base type has no argument. */
     private static void mkCombOfNoFunction() {
         Traced k = new Traced(16, 4);
         for (int ty = 0; ty < 5; ty++) {
@@ -235,7 +261,22 @@ public final class TermMakingEdgesTest {
         Due.is("typeCount()", k.typeCount(), 48);
     }
 
-    /** Promise 8: "Refused ... if v is not a VAR node". */
+    /** Promise 8: "Refused if v or s is invalid". */
+    private static void mkAbsOfInvalidTerms() {
+        for (int count : new int[] {2, 7, 30}) {
+            Traced k = variablesOnly(count);
+            for (int bad : new int[] {-1, count, count + 1, 32, Integer.MAX_VALUE,
+                Integer.MIN_VALUE}) {
+                Due.refused("mkAbs(" + bad + ",p) of " + count, k, () -> k.mkAbs(bad, 1));
+                Due.refused("mkAbs(p," + bad + ") of " + count, k, () -> k.mkAbs(1, bad));
+                Due.refused("mkAbs(" + bad + "," + bad + ")", k, () -> k.mkAbs(bad, bad));
+            }
+            Due.is("mkAbs of the newest term", k.mkAbs(count - 1, 0), count);
+            Due.is("mkAbs in the newest term", k.mkAbs(0, count - 1), count + 1);
+        }
+    }
+
+    /** "Refused ... if v is not a VAR node". */
     private static void mkAbsOfNoVariable() {
         Traced k = new Traced(16, 4);
         int p = k.mkVar(0, 0);

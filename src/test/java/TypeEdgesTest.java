@@ -43,7 +43,7 @@ public final class TypeEdgesTest {
         Due.is("typeCount()", k.typeCount(), 5);
     }
 
-    /** "Every further handle is ... appended at the end of the table, so the next handle is ...". */
+    /** "Every further handle is ... appended at the end of the table, so the next ...". */
     private static void nextHandleIsTypeCount() {
         Traced k = new Traced(8, 4);
         for (int next = 5; next < 48; next++) {
