@@ -8,9 +8,29 @@ final class Due {
     // More than any kernel can hold: where a broken one would never say -1, reading stops here.
     private static final int ENOUGH = 100;
 
+    // Far longer than any test takes: a call that does not end must fail the test, not stop it.
+    private static final long PATIENCE_MS = 300_000;
+
     private static int wrong = 0;
 
+    static {
+        Thread watch = new Thread(Due::giveUp);
+        watch.setDaemon(true);
+        watch.start();
+    }
+
     private Due() {
+    }
+
+    private static void giveUp() {
+        try {
+            Thread.sleep(PATIENCE_MS);
+        } catch (InterruptedException e) {
+            return;
+        }
+        System.out.println("a call does not end");
+        System.out.flush();
+        Runtime.getRuntime().halt(1);
     }
 
     static void is(String call, long got, long want) {
