@@ -13,13 +13,14 @@ final class Due {
 
     private static int wrong = 0;
 
-    static {
+    private Due() {
+    }
+
+    /** Ends the test as failed if it lasts too long. */
+    static void watch() {
         Thread watch = new Thread(Due::giveUp);
         watch.setDaemon(true);
         watch.start();
-    }
-
-    private Due() {
     }
 
     private static void giveUp() {

@@ -17,6 +17,7 @@ public final class ModelTest {
     private static final int[] refused = new int[11];
 
     public static void main(String[] args) {
+        Due.watch();
         Truth truth = new Truth();
         for (int run = 0; run < RUNS; run++) {
             seed = run * 7919L + 1;

@@ -7,6 +7,10 @@ import java.util.function.ToIntFunction;
  * tried out without harm to the first.
  */
 final class Traced {
+    static {
+        Due.watch();
+    }
+
     private final int maxTerms;
     private final int maxThms;
     private final HolKernel kernel;
