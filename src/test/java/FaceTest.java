@@ -2,11 +2,26 @@ import java.lang.reflect.Constructor;
 import java.lang.reflect.Field;
 import java.lang.reflect.Method;
 import java.lang.reflect.Modifier;
+import java.nio.file.Files;
+import java.nio.file.Path;
+import java.util.List;
 import java.util.Set;
 import java.util.TreeSet;
 
 /** The public face: the class has the members of the document and shows no other. */
 public final class FaceTest {
+    /** Word for word, for the names of the arguments are of the face too. */
+    private static final List<String> SIGNATURES = List.of(
+            "public final class HolKernel", "public HolKernel(int maxTerms, int maxThms)",
+            "public int mkFun(int d, int c)", "public int typeArg(int ty, int which)",
+            "public int typeCount()", "public int mkVar(int id, int ty)", "public int mkEq(int a)",
+            "public int mkComb(int f, int x)", "public int mkAbs(int v, int s)",
+            "public int termType(int t)", "public int termSize(int t)",
+            "public int termNode(int t, int pos)", "public int rule(int kind, int a, int b, int c)",
+            "public int hypCount(int th)", "public int thmSize(int th, int part)",
+            "public int thmNode(int th, int part, int pos)",
+            "public boolean thmPartIs(int th, int part, int t)");
+
     private static final Set<String> METHODS = Set.of(
             "int mkFun(int,int)", "int typeArg(int,int)", "int typeCount()", "int mkVar(int,int)",
             "int mkEq(int)", "int mkComb(int,int)", "int mkAbs(int,int)", "int termType(int)",
@@ -21,7 +36,15 @@ public final class FaceTest {
             "R_BETA=5", "R_BETA_NORM=6", "R_ASSUME=7", "R_EQ_MP=8", "R_DEDUCT_ANTISYM=9",
             "R_INST=10");
 
-    public static void main(String[] args) throws IllegalAccessException {
+    public static void main(String[] args) throws Exception {
+        String source = Files.readString(Path.of("src/main/java/HolKernel.java"));
+        for (String signature : SIGNATURES) {
+            Due.is("the source has " + signature, source.contains(signature + " {\n"), true);
+        }
+        for (String constant : CONSTANTS) {
+            String line = "public static final int " + constant.replace("=", " = ") + ";\n";
+            Due.is("the source has " + constant, source.contains(line), true);
+        }
         Due.same("class modifiers", Modifier.toString(HolKernel.class.getModifiers()),
                 "public final");
         Due.same("methods", new TreeSet<>(visibleMethods()), new TreeSet<>(METHODS));

@@ -1,10 +1,6 @@
 import java.lang.reflect.Method;
-import java.net.URL;
-import java.net.URLClassLoader;
 import java.nio.file.Files;
 import java.nio.file.Path;
-import javax.tools.JavaCompiler;
-import javax.tools.ToolProvider;
 
 /**
  * R_BETA_NORM: "Refused ... if t(MAX_STEPS) still has a redex." No term is known that contracts
@@ -53,9 +49,8 @@ public final class StepBoundTest {
 
     /** Builds the class with another MAX_STEPS and tries terms of 0 to 10 and of 20 steps. */
     private static void trySteps(int maxSteps) throws Exception {
-        Path dir = Files.createTempDirectory("steps");
-        try (URLClassLoader loader = compiled(dir, maxSteps)) {
-            Class<?> type = loader.loadClass("HolKernel");
+        try (Compiled kernel = compiled(maxSteps)) {
+            Class<?> type = kernel.type();
             for (int steps = 0; steps <= 8; steps++) {
                 Kernel k = new Kernel(type);
                 int due = steps <= maxSteps ? 0 : -1;
@@ -70,24 +65,15 @@ public final class StepBoundTest {
             int t = twentySteps(twenty::mkVar, twenty::mkComb, twenty::mkAbs, funOfFun);
             Due.is("20 steps with MAX_STEPS " + maxSteps, twenty.normalOf(t),
                     maxSteps >= 20 ? 0 : -1);
-        } finally {
-            Files.deleteIfExists(dir.resolve("HolKernel.class"));
-            Files.deleteIfExists(dir.resolve("HolKernel.java"));
-            Files.deleteIfExists(dir);
         }
     }
 
-    private static URLClassLoader compiled(Path dir, int maxSteps) throws Exception {
+    private static Compiled compiled(int maxSteps) throws Exception {
         String source = Files.readString(Path.of(SOURCE));
         Due.is("the source says '" + LINE + "'", source.contains(LINE), true);
-        Path file = dir.resolve("HolKernel.java");
-        Files.writeString(file, source.replace(LINE, LINE.replace("64", "" + maxSteps)));
-        JavaCompiler javac = ToolProvider.getSystemJavaCompiler();
-        int exit = javac.run(null, null, null, "-d", dir.toString(), file.toString());
-        Due.is("javac with MAX_STEPS " + maxSteps, exit, 0);
+        String changed = source.replace(LINE, LINE.replace("64", "" + maxSteps));
         // Not below this class's loader, which has the class with its own MAX_STEPS.
-        return new URLClassLoader(new URL[] {dir.toUri().toURL()},
-                ClassLoader.getPlatformClassLoader());
+        return new Compiled("HolKernel", changed, ClassLoader.getPlatformClassLoader());
     }
 
     /** I (I (... y)) with n times I. */
