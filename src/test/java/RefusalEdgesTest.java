@@ -24,6 +24,7 @@ public final class RefusalEdgesTest {
         refusedCallsChangeNothing();
         refusedRulesLeaveNoTrace();
         refusedForTypesLeavesNoTrace();
+        refusedVariableLeavesNoTrace();
         falseChangesNothing();
         everyRefusalAnswersTheSame();
         typeHandles();
@@ -100,6 +101,19 @@ public final class RefusalEdgesTest {
         Traced k = late();
         Due.fillTypes(k, 48);
         noTrace(k, new int[][] {{4, 13, P, 0}, {1, ID_OF_A, 0, 0}, {6, ID_OF_A, 0, 0}});
+    }
+
+    /** A variable in a conclusion that was too large does not occur in the next theorem. */
+    private static void refusedVariableLeavesNoTrace() {
+        Traced k = new Traced(32, 16);
+        Sized sized = new Sized(k);
+        int q = k.mkVar(1, 0);
+        int equation = Due.equation(k, q, q);
+        int large = sized.of(15);
+        Due.is("the last node but one of that term", k.termNode(large, 13), Due.var(0, 0));
+        Due.refused("R_REFL of 15 nodes", k, () -> k.rule(HolKernel.R_REFL, large, 0, 0));
+        Due.is("q = q |- q = q", k.rule(HolKernel.R_ASSUME, equation, 0, 0), 0);
+        Due.is("R_ABS of it with p", k.rule(HolKernel.R_ABS, 0, sized.p, 0), 1);
     }
 
     private static void noTrace(Traced start, int[][] refusedCalls) {
